@@ -208,7 +208,7 @@ public final class FewLines {
         for (int weight = 1; weight <= MOST_WEIGHT; weight++) {
             for (int line = 0; line < lineCount; line++) {
                 if (weightOf[line] == weight && lengthBetweenEnds(line) > t * weight) {
-                    addTo(thinLengths, line);
+                    thinLengths.add(lesserEnd[line], greaterEnd[line], weight);
                     set |= 1 << line;
                 }
             }
@@ -320,7 +320,7 @@ public final class FewLines {
     }
 
     private static boolean isIn(int set, int bit) {
-        return (set >> bit & 1) == 1;
+        return ((set >> bit) & 1) == 1;
     }
 
     private static boolean isWay(int way) {
@@ -412,15 +412,11 @@ public final class FewLines {
 
     // ---- lengths
 
-    private void addTo(Lengths lengths, int line) {
-        lengths.add(lesserEnd[line], greaterEnd[line], weightOf[line]);
-    }
-
     private void measure(Lengths lengths, int set) {
         lengths.clear(nodeCount);
         for (int line = 0; line < lineCount; line++) {
             if (isIn(set, line)) {
-                addTo(lengths, line);
+                lengths.add(lesserEnd[line], greaterEnd[line], weightOf[line]);
             }
         }
     }
@@ -443,8 +439,9 @@ public final class FewLines {
 
     private int fewestSet(int t) {
         if (fewestSets[t] == NOT_SOUGHT) {
-            measured(OF_NET);
             int all = linesOf(OF_NET);
+            // isWithinStretch compares with these.
+            measure(netLengths, all);
             fewestSets[t] = fewestWithin(all, lineCount, t, all, leastToJoin());
         }
         return fewestSets[t];
@@ -501,7 +498,7 @@ public final class FewLines {
 
     private long partingProducts(int a, int b, int way) {
         fillMinors(way);
-        return minors.without(1 << a | 1 << b);
+        return minors.without((1 << a) | (1 << b));
     }
 
     private void fillMinors(int way) {
@@ -586,19 +583,19 @@ public final class FewLines {
             return lengths[a * MOST_NODES + b];
         }
 
-        /** A shortest way takes the new line once at most, so one look at each two nodes is enough. */
+        /** A shortest way takes a new line once at most, so one look at each two nodes is enough. */
         void add(int a, int b, int length) {
             if (between(a, b) <= length) {
                 return;
             }
-            for (int from = 0; from < size; from++) {
-                int overA = between(from, a) + length;
-                int overB = between(from, b) + length;
+            int rowA = a * MOST_NODES;
+            int rowB = b * MOST_NODES;
+            for (int row = 0; row < size * MOST_NODES; row += MOST_NODES) {
+                int overA = lengths[row + a] + length;
+                int overB = lengths[row + b] + length;
                 for (int to = 0; to < size; to++) {
-                    int over = Math.min(overA + between(b, to), overB + between(a, to));
-                    if (over < between(from, to)) {
-                        lengths[from * MOST_NODES + to] = over;
-                    }
+                    int over = Math.min(overA + lengths[rowB + to], overB + lengths[rowA + to]);
+                    lengths[row + to] = Math.min(lengths[row + to], over);
                 }
             }
         }

@@ -93,6 +93,11 @@ public final class NetTest {
         CHECKS.due("promise 4: drop(2) again", net.drop(2), FewLines.UNKNOWN);
         CHECKS.due("promise 4: drop(0)", net.drop(0), 1);
         CHECKS.state("promise 4: drop(0)", net, "4 nodes: 2,3,3,33");
+        int[] counts = {4, 1, 1, 3, 33};
+        for (int what = 0; what < 5; what++) {
+            CHECKS.due("promise 4: count(" + what + ") behind drop", net.count(what), counts[what]);
+        }
+        CHECKS.due("promise 4: cut(7, 1) behind drop", net.cut(7, 1), 33);
         CHECKS.due("promise 4: drop(0)", net.drop(0), 1);
         CHECKS.due("promise 4: drop without lines", net.drop(0), FewLines.UNKNOWN);
         CHECKS.due("promise 4: line behind drop", net.line(1, 0, 6), 0);

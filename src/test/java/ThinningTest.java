@@ -59,6 +59,7 @@ public final class ThinningTest {
         forestsAre("lines that are not kept too", net, 12, 1, 2, 3);
         net.drop(0);
         forestsAre("lines behind a dropped one", net, 11, 1, 2, 3);
+        CHECKS.due("promise 12: greedy(1) behind a dropped line", net.greedy(1), 1);
         CHECKS.due("promise 11: peel(11)", net.peel(11), 11);
         CHECKS.due("promise 11: peel(10)", net.peel(10), 10);
     }
@@ -87,6 +88,7 @@ public final class ThinningTest {
         CHECKS.state("promise 12: greedy(4)", net, "5 nodes: 0,1,2,2 1,2,2,2 2,3,2,2 3,4,2,2 0,4,2,0");
         CHECKS.due("promise 12: greedy(9)", net.greedy(9), 4);
         CHECKS.due("promise 12: greedy(1)", net.greedy(1), 5);
+        CHECKS.due("promise 12: greedy(1) of the heaviest lines", ring(9, 9, 9).greedy(1), 3);
         CHECKS.due("promise 12: greedy(1) without lines", new FewLines().greedy(1), 0);
     }
 
