@@ -442,7 +442,7 @@ public final class FewLines {
             int all = linesOf(OF_NET);
             // isWithinStretch compares with these.
             measure(netLengths, all);
-            fewestSets[t] = fewestWithin(all, lineCount, t, all, leastToJoin());
+            fewestSets[t] = fewestWithin(this, all, lineCount, t, all, leastToJoin());
         }
         return fewestSets[t];
     }
@@ -459,7 +459,7 @@ public final class FewLines {
      * a set that is beyond the stretch needs no look at what lies in it; and to leave the highest
      * line out before it is tried with it meets the sets in the order of their numbers.
      */
-    private int fewestWithin(int set, int open, int t, int best, int least) {
+    private static int fewestWithin(FewLines net, int set, int open, int t, int best, int least) {
         int atLeast = Math.max(Integer.bitCount(set >> open), least);
         if (atLeast >= Integer.bitCount(best)) {
             return best;
@@ -470,10 +470,10 @@ public final class FewLines {
         int line = open - 1;
         int without = set & ~(1 << line);
         int better = best;
-        if (isWithinStretch(without, t)) {
-            better = fewestWithin(without, line, t, better, least);
+        if (net.isWithinStretch(without, t)) {
+            better = fewestWithin(net, without, line, t, better, least);
         }
-        return fewestWithin(set, line, t, better, least);
+        return fewestWithin(net, set, line, t, better, least);
     }
 
     private boolean isWithinStretch(int set, int t) {
