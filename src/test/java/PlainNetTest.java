@@ -3,7 +3,10 @@ import java.util.Random;
 /** Runs of calls of all kinds, the same in each run of the test, against PlainNet. */
 public final class PlainNetTest {
     private static final int RUNS = 400;
-    private static final int CALLS = 250;
+
+    /** What is left for the last call's questions and for the whole state: 65 and a few. */
+    private static final int LAST_STEP = Checks.MOST_CALLS - 70;
+    private static final int MOST_STEPS = 1000;
     private static final int[] WILD = {Integer.MIN_VALUE, Integer.MIN_VALUE + 1, -1000, -4, -1, 13, 61, 128, 4097,
         Integer.MAX_VALUE - 1, Integer.MAX_VALUE};
 
@@ -12,6 +15,7 @@ public final class PlainNetTest {
     private final PlainNet plain = new PlainNet();
     private final Checks checks;
     private final StringBuilder said = new StringBuilder();
+    private int calls = 0;
 
     private PlainNetTest(int seed, Checks checks) {
         this.random = new Random(seed);
@@ -23,7 +27,7 @@ public final class PlainNetTest {
         for (int seed = 0; seed < RUNS; seed++) {
             PlainNetTest test = new PlainNetTest(seed, checks);
             test.makeNet();
-            for (int call = 0; call < CALLS; call++) {
+            for (int step = 0; step < MOST_STEPS && test.calls < LAST_STEP; step++) {
                 test.anyCall();
             }
             test.wholeState();
@@ -65,6 +69,7 @@ public final class PlainNetTest {
     }
 
     private void same(String call, long got, long want, int... arguments) {
+        calls++;
         said.append(' ').append(call).append(java.util.Arrays.toString(arguments));
         checks.due(got == want ? call : "after" + said + ": " + call, got, want);
     }

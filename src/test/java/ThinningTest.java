@@ -22,15 +22,6 @@ public final class ThinningTest {
         CHECKS.end();
     }
 
-    private static FewLines ring(int... weights) {
-        FewLines net = new FewLines();
-        net.nodes(weights.length);
-        for (int i = 0; i < weights.length; i++) {
-            net.line(i, (i + 1) % weights.length, weights[i]);
-        }
-        return net;
-    }
-
     private static void forestsAre(String name, FewLines net, int many, int... forestOf) {
         CHECKS.due("promise 10: forests() of " + name, net.forests(), many);
         for (int line = 0; line < forestOf.length; line++) {
@@ -41,7 +32,7 @@ public final class ThinningTest {
     private static void forests() {
         forestsAre("no lines", new FewLines(), 0);
         forestsAre("one line", Checks.net(4, 1, 2, 3), 1, 1);
-        forestsAre("a ring", ring(1, 2, 3), 2, 1, 1, 2);
+        forestsAre("a ring", Checks.ring(1, 2, 3), 2, 1, 1, 2);
         // The last line joins what the first forest does not join yet.
         forestsAre("two parts", Checks.net(5, 0, 1, 1, 0, 1, 1, 1, 2, 1, 0, 2, 1, 3, 4, 1), 2, 1, 2, 1, 2, 1);
         // Both ends of line 3 are joined in forest 1 by lines that come before it, in 2 by none.
@@ -88,7 +79,7 @@ public final class ThinningTest {
         CHECKS.state("promise 12: greedy(4)", net, "5 nodes: 0,1,2,2 1,2,2,2 2,3,2,2 3,4,2,2 0,4,2,0");
         CHECKS.due("promise 12: greedy(9)", net.greedy(9), 4);
         CHECKS.due("promise 12: greedy(1)", net.greedy(1), 5);
-        CHECKS.due("promise 12: greedy(1) of the heaviest lines", ring(9, 9, 9).greedy(1), 3);
+        CHECKS.due("promise 12: greedy(1) of the heaviest lines", Checks.ring(9, 9, 9).greedy(1), 3);
         CHECKS.due("promise 12: greedy(1) without lines", new FewLines().greedy(1), 0);
     }
 
@@ -107,15 +98,15 @@ public final class ThinningTest {
     }
 
     private static void fewest() {
-        FewLines five = ring(1, 1, 1, 1, 1);
+        FewLines five = Checks.ring(1, 1, 1, 1, 1);
         fewestIs("a ring", five, 3, 31);
         fewestIs("a ring", five, 4, 15);
         fewestIs("a ring", five, 9, 15);
         // Without the 9 its ends are 1 + 2 + 3 apart; so it is of no use even by 1.
-        fewestIs("a ring with a heavy line", ring(9, 1, 2, 3), 1, 14);
+        fewestIs("a ring with a heavy line", Checks.ring(9, 1, 2, 3), 1, 14);
         // Without line 3 the other way is 15, which is 5 times 3.
-        fewestIs("a ring with a light line", ring(5, 5, 5, 3), 4, 11);
-        fewestIs("a ring with a light line", ring(5, 5, 5, 3), 5, 7);
+        fewestIs("a ring with a light line", Checks.ring(5, 5, 5, 3), 4, 11);
+        fewestIs("a ring with a light line", Checks.ring(5, 5, 5, 3), 5, 7);
         fewestIs("no lines", new FewLines(), 1, 0);
         fewestIs("one line", Checks.net(7, 3, 6, 9), 1, 1);
         String before = Checks.state(five);
@@ -141,7 +132,7 @@ public final class ThinningTest {
     }
 
     private static void fewestFollowsTheNet() {
-        FewLines net = ring(1, 1, 1);
+        FewLines net = Checks.ring(1, 1, 1);
         fewestIs("a ring of three", net, 2, 3);
         net.keep(0, 0);
         net.keep(1, 0);
@@ -157,7 +148,7 @@ public final class ThinningTest {
     }
 
     private static void thin() {
-        FewLines net = ring(5, 5, 5, 3);
+        FewLines net = Checks.ring(5, 5, 5, 3);
         net.keep(0, 60);
         net.keep(1, 0);
         CHECKS.due("promise 14: thin(4)", net.thin(4), 3);
@@ -208,7 +199,7 @@ public final class ThinningTest {
         FewLines heavy = Checks.net(3, 0, 1, 1, 1, 2, 1, 0, 2, 9);
         heavy.keep(2, 0);
         stretchIs("without a heavy line", heavy, 1, 1);
-        FewLines far = ring(9, 9, 9, 9, 9, 9, 1);
+        FewLines far = Checks.ring(9, 9, 9, 9, 9, 9, 1);
         far.keep(6, 0);
         stretchIs("of the longest way", far, 54, 1);
     }
@@ -222,7 +213,7 @@ public final class ThinningTest {
     }
 
     private static void refused() {
-        FewLines net = ring(5, 5, 5, 3);
+        FewLines net = Checks.ring(5, 5, 5, 3);
         net.keep(1, 17);
         String before = Checks.state(net);
         for (int t : new int[] {0, 10, -1, MIN, MAX}) {
