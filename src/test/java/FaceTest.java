@@ -25,7 +25,11 @@ public final class FaceTest {
         constants();
         methods();
         members();
-        words(Files.readString(Path.of("src/main/java/FewLines.java")));
+        classesInside();
+        String text = Files.readString(Path.of("src/main/java/FewLines.java"));
+        String code = text.replaceAll("(?s)/\\*.*?\\*/", "").replaceAll("//[^\n]*", "");
+        words(code);
+        makings(code);
         CHECKS.end();
     }
 
@@ -75,13 +79,31 @@ public final class FaceTest {
         CHECKS.holds("rule 11: few fields", own <= 20);
         CHECKS.holds("rule 1: just the constants are public: " + seen,
             seen.equals(Set.of("NONE", "UNKNOWN", "OUTSIDE", "NOT", "FULL")));
+    }
+
+    private static void classesInside() {
+        CHECKS.holds("rule 11: few classes", FewLines.class.getDeclaredClasses().length <= 11);
         for (Class<?> inside : FewLines.class.getDeclaredClasses()) {
-            CHECKS.holds("rule 2: " + inside + " is static", Modifier.isStatic(inside.getModifiers()));
+            int modifiers = inside.getModifiers();
+            CHECKS.holds("rule 2: " + inside + " is static", Modifier.isStatic(modifiers));
+            CHECKS.holds("rule 1: " + inside + " is not seen from everywhere",
+                !Modifier.isPublic(modifiers) && !Modifier.isProtected(modifiers));
+            CHECKS.holds("rule 11: " + inside + " has few fields", inside.getDeclaredFields().length <= 20);
+            for (Method method : inside.getDeclaredMethods()) {
+                CHECKS.holds("rule 11: " + method + " has few parameters", method.getParameterCount() <= 7);
+            }
         }
     }
 
-    private static void words(String text) {
-        String code = text.replaceAll("(?s)/\\*.*?\\*/", "").replaceAll("//[^\n]*", "");
+    /** All calls of one run share one room, so what a call needs is made with its object. */
+    private static void makings(String code) {
+        String calls = code.replaceAll("\\b(FewLines|Parts|Lengths|Minors)\\(\\) \\{[^}]*\\}", "");
+        CHECKS.holds("the constructors have been found", !calls.equals(code));
+        CHECKS.holds("a call makes no object",
+            !Pattern.compile("\\bnew\\b|\\bclone\\b|\\bcopyOf|\\bString|List\\b|\"").matcher(calls).find());
+    }
+
+    private static void words(String code) {
         String[] barred = {"\\b(throw|throws|try|catch|synchronized|assert|package|native|volatile)\\b", "->", "::",
             "Exact\\b", "\\bSystem\\b", "\\bThread\\b", "\\bRandom\\b", "\\bstatic\\s*\\{", "\\[\\]\\[\\]\\[\\]"};
         for (String pattern : barred) {
